@@ -53,6 +53,14 @@ public final class AnalyseTest {
         Check.due("analyse(3)", y.analyse(3), true);
         Check.same("analysis of another image", Check.state(y),
             Check.state(Check.analysed(3, 0, 0, 1, 2, 3, 4, 5, 6)));
+        // A table at address 0, then an image where nothing is symbolic.
+        ReasmDisasm z = Check.analysed(1, 8, 1, 0, 8, 8, 10, 0, 4, 0, 13, 0, 0);
+        Check.due("table at 0", z.isSymbolic(0), true);
+        z.reset();
+        Check.put(z, 0, 0);
+        Check.due("addEntry(1)", z.addEntry(1), true);
+        Check.due("analyse(1)", z.analyse(1), true);
+        Check.same("analysis without symbols", Check.state(z), Check.state(Check.analysed(1, 1, 0, 0)));
     }
 
     private static void keepsTheRest() {

@@ -55,6 +55,14 @@ final class Check {
         return x;
     }
 
+    /** The bytes at the end of a full image of NOPs. */
+    static int[] full(int... last) {
+        int[] bytes = new int[64];
+        java.util.Arrays.fill(bytes, ReasmDisasm.OP_NOP);
+        System.arraycopy(last, 0, bytes, 64 - last.length, last.length);
+        return bytes;
+    }
+
     /** Analyses without padding, so that the image can be read back whole. */
     static void imageIs(String what, ReasmDisasm x, int... bytes) {
         if (x.count(ReasmDisasm.K_ENTRIES) == 0) {

@@ -7,6 +7,7 @@ public final class CountTest {
         unresolved();
         sharedTable();
         setsCountOnce();
+        shorterImage();
         Check.end();
     }
 
@@ -59,6 +60,24 @@ public final class CountTest {
         Check.due("tables", x.count(ReasmDisasm.K_TABLES), 2);
         Check.due("table positions", x.count(ReasmDisasm.CLASS_TABLE), 2);
         Check.symbolsAre("shared table", x, 3, 6, 10, 13, 14);
+    }
+
+    /** What an earlier analysis found past the end of a shorter image is not counted. */
+    private static void shorterImage() {
+        int[] guarded = {1, 10, 0, 1, 0, 13, 0, 0, 14, 0};
+        for (int size = 1; size < guarded.length; size++) {
+            ReasmDisasm x = Check.load(guarded);
+            Check.due("addEntry(5)", x.addEntry(5), true);
+            Check.due("addEntry(8)", x.addEntry(8), true);
+            Check.due("analyse(0)", x.analyse(0), true);
+            Check.due("tables", x.count(ReasmDisasm.K_TABLES), 1);
+            Check.due("unresolved", x.count(ReasmDisasm.K_UNRESOLVED), 1);
+            x.reset();
+            Check.put(x, new int[size]);
+            Check.due("addEntry(0)", x.addEntry(0), true);
+            Check.due("analyse(0)", x.analyse(0), true);
+            countsAre("shorter image of " + size, x, size - 1, 1, 0, 0, 0, 1, 0, 0, 0, size, 1);
+        }
     }
 
     private static void setsCountOnce() {

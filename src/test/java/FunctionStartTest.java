@@ -2,6 +2,7 @@
 public final class FunctionStartTest {
     public static void main(String[] args) {
         entriesAndCalls();
+        fullImage();
         onlyCalls();
         outOfReach();
         Check.end();
@@ -18,6 +19,12 @@ public final class FunctionStartTest {
         Check.functionsAre("a call of the size", Check.analysed(0, 0, 11, 3, 0), 0);
         Check.functionsAre("a call of 255", Check.analysed(0, 0, 11, 255, 0), 0);
         Check.functionsAre("calls in called ones", Check.analysed(0, 0, 11, 3, 0, 11, 6, 12, 12), 0, 3, 6);
+    }
+
+    private static void fullImage() {
+        Check.functionsAre("full, a call of the last", Check.analysed(3, 0, Check.full(11, 63)), 0, 63);
+        Check.functionsAre("full, a call of the size", Check.analysed(3, 0, Check.full(11, 64)), 0);
+        Check.functionsAre("full, a call of 255", Check.analysed(3, 0, Check.full(11, 255)), 0);
     }
 
     private static void onlyCalls() {

@@ -176,6 +176,10 @@ public final class RunTest {
     private static void pcBeyondTheEnd() {
         Check.ended("fall off", ran(0, 9, 1, 1), FAULT, 2, 2);
         Check.ended("fall off at the limit", ran(0, 2, 1, 1), STEPS, 2, 2);
+        Check.ended("fall off a full image", ran(0, 99, Check.full()), FAULT, 64, 64);
+        Check.ended("JMP to the end of a full image", ran(62, 9, Check.full(8, 64)), FAULT, 1, 64);
+        Check.ended("LDX past a full image", ran(60, 9, Check.full(6, 0, 64, 0)), FAULT, 0, 60);
+        Check.ended("cut at the end of a full image", ran(63, 9, Check.full(6)), FAULT, 0, 63);
         Check.ended("JMP to n", ran(0, 9, 8, 2), FAULT, 1, 2);
         Check.ended("JMP to 255", ran(0, 9, 8, 255), FAULT, 1, 255);
         Check.ended("JMP to 255 at the limit", ran(0, 1, 8, 255), STEPS, 1, 255);

@@ -30,6 +30,8 @@ public final class SymbolTest {
     private static void addressesOutOfTheImage() {
         Check.symbolsAre("the last address", Check.analysed(1, 0, 3, 0, 3, 0), 2);
         Check.symbolsAre("the size", Check.analysed(1, 0, 3, 0, 4, 0));
+        Check.symbolsAre("full, the last address", Check.analysed(1, 0, Check.full(3, 0, 63)), 63);
+        Check.symbolsAre("full, the size", Check.analysed(1, 0, Check.full(3, 0, 64)));
         Check.symbolsAre("255", Check.analysed(1, 0, 3, 0, 255, 0));
     }
 
@@ -39,6 +41,8 @@ public final class SymbolTest {
         Check.symbolsAre("table", x, 6, 7, 9);
         ReasmDisasm unbounded = Check.analysed(1, 4, 10, 2, 4, 0, 13, 1, 7, 11, 12, 10, 200, 0);
         Check.symbolsAre("unbounded", unbounded, 6);
+        Check.symbolsAre("table of one", Check.analysed(1, 4, 10, 1, 1, 0, 13, 1, 7, 4, 4), 6, 7);
+        Check.symbolsAre("full, table of the last", Check.analysed(1, 61, Check.full(10, 1, 1, 0, 13, 1, 63)), 63);
         // The table lies over the instruction's own bytes.
         ReasmDisasm own = Check.analysed(1, 4, 10, 1, 3, 0, 13, 1, 4);
         Check.symbolsAre("table over its own jump", own, 5, 6);
