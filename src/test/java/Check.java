@@ -26,6 +26,20 @@ final class Check {
         }
     }
 
+    /** A refused call answers false, and every answer stays what it was before. */
+    static void refused(String what, boolean answer, ReasmDisasm x, String before) {
+        due(what, answer, false);
+        same("refused " + what, state(x), before);
+    }
+
+    /** Numbers outside first..end-1: the nearest, the farthest, and some that are inside once bits are cut off. */
+    static int[] outside(int first, int end) {
+        return new int[] {
+            first - 1, first - 2, first - 256, first - 65536, Integer.MIN_VALUE,
+            end, end + 1, first + 65536, Integer.MAX_VALUE,
+        };
+    }
+
     /** Ends a test's main method. */
     static void end() {
         if (wrong != 0) {
@@ -47,12 +61,62 @@ final class Check {
         }
     }
 
+    static void enter(ReasmDisasm x, int... entries) {
+        for (int a : entries) {
+            due("addEntry(" + a + ")", x.addEntry(a), true);
+        }
+    }
+
+    static void analyse(ReasmDisasm x, int pad) {
+        due("analyse(" + pad + ")", x.analyse(pad), true);
+    }
+
+    static void run(ReasmDisasm x, int which, int start, int maxSteps) {
+        due("run(" + which + ", " + start + ", " + maxSteps + ")", x.run(which, start, maxSteps), true);
+    }
+
     /** A new object that holds the bytes, with the one entry, analysed. */
     static ReasmDisasm analysed(int pad, int entry, int... bytes) {
+        return analysedFrom(new int[] {entry}, pad, bytes);
+    }
+
+    /** A new object that holds the bytes, with all the entries, analysed. */
+    static ReasmDisasm analysedFrom(int[] entries, int pad, int... bytes) {
         ReasmDisasm x = load(bytes);
-        due("addEntry(" + entry + ")", x.addEntry(entry), true);
-        due("analyse(" + pad + ")", x.analyse(pad), true);
+        enter(x, entries);
+        analyse(x, pad);
         return x;
+    }
+
+    /** A new object that holds the bytes, run as the image. */
+    static ReasmDisasm ran(int start, int maxSteps, int... bytes) {
+        ReasmDisasm x = load(bytes);
+        run(x, ReasmDisasm.MEM_IMAGE, start, maxSteps);
+        return x;
+    }
+
+    /** No answer tells of an analysis. */
+    static void notAnalysed(String what, ReasmDisasm x) {
+        for (int k = 0; k <= 8; k++) {
+            due(what + ": count(" + k + ")", x.count(k), -1);
+        }
+        due(what + ": outSize()", x.outSize(), -1);
+        for (int q = 0; q < 64; q++) {
+            due(what + ": byteClass(" + q + ")", x.byteClass(q), -1);
+            due(what + ": isSymbolic(" + q + ")", x.isSymbolic(q), false);
+            due(what + ": isFunctionStart(" + q + ")", x.isFunctionStart(q), false);
+            due(what + ": outByte(" + q + ")", x.outByte(q), -1);
+            due(what + ": mapAddr(" + q + ")", x.mapAddr(q), -1);
+        }
+        due(what + ": run on the output", x.run(ReasmDisasm.MEM_OUTPUT, 0, 1), false);
+    }
+
+    /** The run state of an object that never ran. */
+    static void neverRan(String what, ReasmDisasm x) {
+        ended(what, x, ReasmDisasm.RUN_NONE, 0, 0);
+        due(what + ": depth", x.runInfo(ReasmDisasm.INFO_DEPTH), 0);
+        registersAre(what, x, 0, 0, 0, 0);
+        valuesAre(what, x);
     }
 
     /** The bytes at the end of a full image of NOPs. */
@@ -128,7 +192,9 @@ final class Check {
         for (int i = 0; i < values.length; i++) {
             due(what + ": runOut(" + i + ")", x.runOut(i), values[i]);
         }
-        due(what + ": runOut past the end", x.runOut(values.length), -1);
+        for (int i = values.length; i <= 17; i++) {
+            due(what + ": runOut(" + i + ")", x.runOut(i), -1);
+        }
     }
 
     /** Every answer of every asking method, in reach and just out of reach. */

@@ -1,248 +1,296 @@
-/** Promise 13. */
+/** Promise 13: what run refuses, its memories, and what it clears. Each method holds to the sentence above it. */
 public final class RunTest {
+    private static final int IMAGE = ReasmDisasm.MEM_IMAGE;
+    private static final int OUTPUT = ReasmDisasm.MEM_OUTPUT;
     private static final int HALTED = ReasmDisasm.RUN_HALTED;
     private static final int FAULT = ReasmDisasm.RUN_FAULT;
     private static final int STEPS = ReasmDisasm.RUN_STEPS;
 
     public static void main(String[] args) {
-        refuses();
-        registerEffects();
-        loads();
-        jumps();
-        branches();
-        callsAndReturns();
-        tableJumps();
-        valuesOut();
-        invalidInstructions();
-        stepLimit();
-        pcBeyondTheEnd();
-        clearsTheOldRun();
+        wrongMemories();
+        wrongStepLimits();
+        wrongStarts();
+        wrongStartsOfAFullImage();
+        notAnalysed();
+        manyWrongAtOnce();
+        previousRunStays();
+        refusedBeforeAnyRun();
+        onTheImage();
         onTheOutput();
+        startsWhereAddressesMove();
+        sizeOfTheOutput();
+        outputOfTheLastAnalysis();
         changesOnlyTheRun();
+        clearsRegisters();
+        clearsTheStack();
+        clearsTheValues();
+        clearsTheSteps();
         Check.end();
     }
 
-    private static ReasmDisasm ran(int start, int maxSteps, int... bytes) {
-        ReasmDisasm x = Check.load(bytes);
-        Check.due("run(0, " + start + ", " + maxSteps + ")", x.run(0, start, maxSteps), true);
+    /** An analysed object whose run left a value out, a register, a depth, and a pc that is not 0. */
+    private static ReasmDisasm used() {
+        ReasmDisasm x = Check.analysedFrom(new int[] {0, 3}, 2, 2, 3, 7, 7, 3, 11, 8, 99, 0);
+        Check.run(x, IMAGE, 0, 10);
+        Check.ended("used", x, HALTED, 4, 8);
         return x;
     }
 
     private static void refused(ReasmDisasm x, int which, int start, int maxSteps) {
         String before = Check.state(x);
-        String what = "run(" + which + ", " + start + ", " + maxSteps + ")";
-        Check.due(what, x.run(which, start, maxSteps), false);
-        Check.same("refused " + what, Check.state(x), before);
+        Check.refused("run(" + which + ", " + start + ", " + maxSteps + ")", x.run(which, start, maxSteps), x, before);
     }
 
-    private static void refuses() {
-        ReasmDisasm empty = new ReasmDisasm(64);
-        refused(empty, 0, 0, 1);
-        ReasmDisasm x = Check.load(2, 3, 7, 7, 3, 0);
-        Check.due("addEntry(3)", x.addEntry(3), true);
-        Check.due("run", x.run(0, 0, 10), true);
-        refused(x, 1, 0, 10);
-        Check.due("analyse(1)", x.analyse(1), true);
-        int[] wrongMemories = {-1, 2, 3, Integer.MIN_VALUE, Integer.MAX_VALUE};
-        for (int which : wrongMemories) {
+    /** "Which is not `MEM_IMAGE` and not `MEM_OUTPUT`." */
+    private static void wrongMemories() {
+        ReasmDisasm x = used();
+        for (int which : Check.outside(0, 2)) {
             refused(x, which, 0, 10);
         }
-        int[] wrongStarts = {-1, 6, 64, Integer.MIN_VALUE, Integer.MAX_VALUE};
-        int[] wrongSteps = {0, -1, 2001, Integer.MIN_VALUE, Integer.MAX_VALUE};
-        for (int which = 0; which <= 1; which++) {
-            for (int start : wrongStarts) {
-                refused(x, which, start, 10);
-            }
-            for (int maxSteps : wrongSteps) {
+    }
+
+    /** "maxSteps<1 or maxSteps>2000." */
+    private static void wrongStepLimits() {
+        ReasmDisasm x = used();
+        for (int which = IMAGE; which <= OUTPUT; which++) {
+            for (int maxSteps : Check.outside(1, 2001)) {
                 refused(x, which, 0, maxSteps);
             }
-            Check.due("1 step", x.run(which, 0, 1), true);
-            Check.due("2000 steps", x.run(which, 5, 2000), true);
+            Check.run(x, which, 0, 1);
+            Check.due("steps of 1", x.runInfo(ReasmDisasm.INFO_STEPS), 1);
+            Check.run(x, which, 0, 2000);
+            Check.due("status at 2000", x.runInfo(ReasmDisasm.INFO_STATUS), HALTED);
         }
     }
 
-    private static void registerEffects() {
-        Check.registersAre("MOVI", ran(0, 9, 2, 0, 255, 2, 1, 1, 2, 3, 128, 0), 255, 1, 0, 128);
-        Check.registersAre("LEA", ran(0, 9, 3, 2, 200, 3, 0, 4, 0), 4, 0, 200, 0);
-        Check.registersAre("ADD", ran(0, 9, 2, 0, 100, 2, 1, 50, 4, 0, 1, 0), 150, 50, 0, 0);
-        Check.registersAre("ADD wraps", ran(0, 9, 2, 0, 200, 2, 1, 56, 4, 0, 1, 0), 0, 56, 0, 0);
-        Check.registersAre("ADD to itself", ran(0, 9, 2, 3, 129, 4, 3, 3, 0), 0, 0, 0, 2);
-        Check.registersAre("ADDI", ran(0, 9, 5, 2, 255, 5, 3, 7, 0), 0, 0, 255, 7);
-        Check.registersAre("ADDI wraps", ran(0, 9, 5, 2, 255, 5, 2, 3, 0), 0, 0, 2, 0);
-        Check.ended("NOP", ran(0, 9, 1, 1, 0), HALTED, 3, 2);
-        Check.ended("register effects", ran(0, 9, 2, 0, 0, 3, 0, 0, 4, 0, 0, 5, 0, 0, 0), HALTED, 5, 12);
+    /** "start<0 or start>=SIZE", though the output is longer. */
+    private static void wrongStarts() {
+        ReasmDisasm x = used();
+        for (int which = IMAGE; which <= OUTPUT; which++) {
+            for (int start : Check.outside(0, 9)) {
+                refused(x, which, start, 10);
+            }
+            for (int start = 9; start <= 256; start++) {
+                refused(x, which, start, 10);
+            }
+            for (int start = 0; start < 9; start++) {
+                Check.run(x, which, start, 10);
+            }
+        }
+        refused(new ReasmDisasm(64), IMAGE, 0, 1);
     }
 
-    private static void loads() {
-        Check.registersAre("LDX", ran(0, 9, 6, 1, 5, 0, 0, 77), 0, 77, 0, 0);
-        Check.registersAre("LDX with an index", ran(0, 9, 2, 2, 3, 6, 1, 6, 2, 0, 0, 88), 0, 88, 3, 0);
-        Check.registersAre("LDX over its index", ran(0, 9, 2, 2, 3, 6, 2, 6, 2, 0, 0, 88), 0, 0, 88, 0);
-        Check.registersAre("LDX wraps", ran(0, 9, 2, 0, 255, 6, 1, 9, 0, 0, 66), 255, 66, 0, 0);
-        ReasmDisasm last = ran(0, 9, 6, 3, 4, 0, 0);
-        Check.ended("LDX of the last byte", last, HALTED, 2, 4);
-        ReasmDisasm over = ran(0, 9, 2, 3, 1, 6, 3, 8, 0, 0);
-        Check.ended("LDX at n", over, FAULT, 1, 3);
-        Check.registersAre("LDX at n", over, 0, 0, 0, 1);
-        Check.ended("LDX at 255", ran(0, 9, 6, 3, 255, 0, 0), FAULT, 0, 0);
-    }
-
-    private static void jumps() {
-        Check.ended("JMP", ran(0, 9, 8, 3, 99, 0), HALTED, 2, 3);
-        Check.ended("JMP back", ran(3, 9, 0, 99, 99, 8, 0), HALTED, 2, 0);
-        Check.ended("JMPR", ran(0, 9, 2, 1, 6, 14, 1, 99, 0), HALTED, 3, 6);
-        Check.ended("JMPR to 0", ran(1, 9, 0, 14, 3), HALTED, 2, 0);
-    }
-
-    private static void branches() {
-        int[][] cases = {
-            {9, 5, 5, 1}, {9, 4, 5, 0}, {9, 6, 5, 0}, {9, 0, 0, 1}, {9, 255, 255, 1},
-            {10, 5, 5, 1}, {10, 4, 5, 0}, {10, 6, 5, 1}, {10, 0, 0, 1}, {10, 200, 100, 1}, {10, 100, 200, 0},
-            {10, 255, 127, 1}, {10, 127, 128, 0}, {10, 128, 127, 1},
-        };
-        for (int[] c : cases) {
-            ReasmDisasm x = ran(0, 9, 2, 1, c[1], c[0], 1, c[2], 8, 0, 0);
-            Check.ended("branch " + c[0] + " on " + c[1] + " and " + c[2], x, HALTED, 3, c[3] == 1 ? 8 : 7);
+    private static void wrongStartsOfAFullImage() {
+        ReasmDisasm x = Check.analysed(3, 1, Check.full(0));
+        for (int which = IMAGE; which <= OUTPUT; which++) {
+            Check.run(x, which, 63, 10);
+            refused(x, which, 64, 10);
+            refused(x, which, 65, 10);
         }
     }
 
-    private static void callsAndReturns() {
-        ReasmDisasm x = ran(0, 9, 11, 4, 0, 99, 2, 0, 9, 12);
-        Check.ended("CALL and RET", x, HALTED, 4, 2);
-        Check.due("depth after RET", x.runInfo(ReasmDisasm.INFO_DEPTH), 0);
-        ReasmDisasm in = ran(0, 9, 11, 3, 99, 0);
-        Check.due("depth in a call", in.runInfo(ReasmDisasm.INFO_DEPTH), 1);
-        // Nested calls come back in the order last in, first out.
-        ReasmDisasm nested = ran(0, 20, 11, 5, 7, 0, 0, 11, 11, 5, 0, 1, 12, 5, 0, 16, 12);
-        Check.ended("nested calls", nested, HALTED, 8, 4);
-        Check.valuesAre("nested calls", nested, 17);
-        ReasmDisasm deep = ran(0, 100, 5, 0, 1, 11, 0);
-        Check.ended("the ninth call", deep, FAULT, 17, 3);
-        Check.due("greatest depth", deep.runInfo(ReasmDisasm.INFO_DEPTH), 8);
-        Check.due("calls made", deep.runReg(0), 9);
-        ReasmDisasm eight = ran(0, 16, 5, 0, 1, 11, 0);
-        Check.ended("the eighth call", eight, STEPS, 16, 0);
-        Check.due("eight calls", eight.runInfo(ReasmDisasm.INFO_DEPTH), 8);
-        ReasmDisasm bare = ran(0, 9, 1, 12, 0);
-        Check.ended("RET on an empty stack", bare, FAULT, 1, 1);
-        Check.due("depth after a bare RET", bare.runInfo(ReasmDisasm.INFO_DEPTH), 0);
+    /** "which==`MEM_OUTPUT` and not analysed"; the image runs all the same. */
+    private static void notAnalysed() {
+        ReasmDisasm x = Check.load(7, 0, 0);
+        imageOnly(x);
+        Check.enter(x, 0);
+        imageOnly(x);
+        Check.analyse(x, 1);
+        Check.run(x, OUTPUT, 0, 9);
+        Check.put(x, 0);
+        imageOnly(x);
+        Check.analyse(x, 1);
+        Check.enter(x, 1);
+        imageOnly(x);
+        Check.analyse(x, 1);
+        x.reset();
+        Check.put(x, 7, 0, 0);
+        imageOnly(x);
     }
 
-    private static void tableJumps() {
-        Check.ended("JMPT", ran(0, 9, 2, 3, 1, 13, 3, 6, 99, 8, 0), HALTED, 3, 8);
-        Check.ended("JMPT wraps", ran(0, 9, 2, 3, 255, 13, 3, 8, 99, 8, 0), HALTED, 3, 8);
-        Check.ended("JMPT through the last byte", ran(0, 9, 13, 0, 4, 0, 3), HALTED, 2, 3);
-        Check.ended("JMPT at n", ran(0, 9, 13, 0, 5, 0, 3), FAULT, 0, 0);
-        Check.ended("JMPT at 255", ran(0, 9, 1, 13, 0, 255, 0, 3), FAULT, 1, 1);
+    private static void imageOnly(ReasmDisasm x) {
+        refused(x, OUTPUT, 0, 9);
+        Check.run(x, IMAGE, 0, 9);
+        Check.ended("image without analysis", x, HALTED, 2, 2);
+        refused(x, OUTPUT, 0, 9);
     }
 
-    private static void valuesOut() {
-        ReasmDisasm x = ran(0, 9, 7, 0, 2, 1, 255, 7, 1, 0);
-        Check.valuesAre("OUT", x, 0, 255);
-        ReasmDisasm full = ran(0, 2000, 7, 0, 5, 0, 1, 8, 0);
-        Check.ended("the 17th value", full, FAULT, 48, 0);
-        Check.valuesAre("16 values", full, 0, 1, 2, 3, 4, 5, 6, 7, 8, 9, 10, 11, 12, 13, 14, 15);
-        ReasmDisasm sixteen = ran(0, 46, 7, 0, 5, 0, 1, 8, 0);
-        Check.ended("the 16th value", sixteen, STEPS, 46, 2);
+    private static void manyWrongAtOnce() {
+        ReasmDisasm x = used();
+        refused(x, 2, -1, 0);
+        refused(x, -1, 9, 2001);
+        refused(x, OUTPUT, -1, 0);
+        ReasmDisasm empty = new ReasmDisasm(8);
+        refused(empty, OUTPUT, 0, 1);
+        refused(empty, 2, 0, 0);
     }
 
-    private static void invalidInstructions() {
-        Check.ended("opcode 15", ran(0, 9, 1, 15, 0), FAULT, 1, 1);
-        Check.ended("opcode 255", ran(0, 9, 1, 255, 0), FAULT, 1, 1);
-        Check.ended("opcode 15 at once", ran(0, 9, 15, 0, 0, 0), FAULT, 0, 0);
-        int[][] cut = {
-            {2, 0}, {3, 0}, {4, 0}, {5, 0}, {6, 0, 0}, {7}, {8}, {9, 0, 0}, {10, 0, 0}, {11}, {13, 0}, {14},
-        };
-        for (int[] bytes : cut) {
-            Check.ended("op " + bytes[0] + " cut", ran(0, 9, bytes), FAULT, 0, 0);
-        }
-        int[][] wrong = {
-            {2, 4, 0}, {3, 4, 0}, {4, 4, 0}, {4, 0, 4}, {5, 4, 0}, {6, 4, 0, 0}, {6, 0, 0, 4}, {7, 4},
-            {9, 4, 0, 0}, {10, 4, 0, 0}, {13, 4, 0}, {14, 4}, {14, 255},
-        };
-        for (int[] bytes : wrong) {
-            Check.ended("op " + bytes[0] + " with a wrong register", ran(0, 9, bytes), FAULT, 0, 0);
+    /** "Each refusal answers false and changes nothing (the previous run state stays)", however that run ended. */
+    private static void previousRunStays() {
+        int[][] runs = {{0, 10}, {0, 3}, {7, 10}};
+        int[] ends = {HALTED, STEPS, FAULT};
+        for (int i = 0; i < runs.length; i++) {
+            ReasmDisasm x = used();
+            Check.run(x, IMAGE, runs[i][0], runs[i][1]);
+            Check.due("how it ended", x.runInfo(ReasmDisasm.INFO_STATUS), ends[i]);
+            refused(x, 2, 0, 10);
+            refused(x, IMAGE, 0, 0);
+            refused(x, OUTPUT, 0, 2001);
+            refused(x, IMAGE, -1, 10);
+            refused(x, OUTPUT, 9, 10);
+            Check.put(x, 0);
+            refused(x, OUTPUT, 0, 10);
         }
     }
 
-    private static void stepLimit() {
-        Check.ended("endless loop", ran(0, 2000, 8, 0), STEPS, 2000, 0);
-        Check.ended("one step", ran(0, 1, 1, 1, 0), STEPS, 1, 1);
-        Check.ended("HALT as the last step", ran(0, 3, 1, 1, 0), HALTED, 3, 2);
-        Check.ended("one step too few", ran(0, 2, 1, 1, 0), STEPS, 2, 2);
-        Check.ended("limit before fault", ran(0, 2, 1, 1, 99), STEPS, 2, 2);
-        Check.ended("fault within the limit", ran(0, 3, 1, 1, 99), FAULT, 2, 2);
+    private static void refusedBeforeAnyRun() {
+        ReasmDisasm x = Check.load(2, 0, 9, 0);
+        refused(x, 2, 0, 10);
+        refused(x, IMAGE, 4, 10);
+        refused(x, IMAGE, 0, 0);
+        refused(x, OUTPUT, 0, 10);
+        Check.neverRan("after refusals", x);
     }
 
-    private static void pcBeyondTheEnd() {
-        Check.ended("fall off", ran(0, 9, 1, 1), FAULT, 2, 2);
-        Check.ended("fall off at the limit", ran(0, 2, 1, 1), STEPS, 2, 2);
-        Check.ended("fall off a full image", ran(0, 99, Check.full()), FAULT, 64, 64);
-        Check.ended("JMP to the end of a full image", ran(62, 9, Check.full(8, 64)), FAULT, 1, 64);
-        Check.ended("LDX past a full image", ran(60, 9, Check.full(6, 0, 64, 0)), FAULT, 0, 60);
-        Check.ended("cut at the end of a full image", ran(63, 9, Check.full(6)), FAULT, 0, 63);
-        Check.ended("JMP to n", ran(0, 9, 8, 2), FAULT, 1, 2);
-        Check.ended("JMP to 255", ran(0, 9, 8, 255), FAULT, 1, 255);
-        Check.ended("JMP to 255 at the limit", ran(0, 1, 8, 255), STEPS, 1, 255);
-        Check.ended("JMPR to 250", ran(0, 9, 2, 0, 250, 14, 0), FAULT, 2, 250);
-        Check.ended("CALL of 200", ran(0, 9, 11, 200), FAULT, 1, 200);
-        Check.ended("RET to n", ran(1, 9, 12, 11, 0), FAULT, 2, 3);
-        Check.ended("RET to n at the limit", ran(1, 2, 12, 11, 0), STEPS, 2, 3);
-        Check.ended("JMPT to 99", ran(0, 9, 13, 0, 3, 99), FAULT, 1, 99);
-        Check.ended("BEQI to 99", ran(0, 9, 9, 0, 0, 99), FAULT, 1, 99);
-    }
-
-    private static void clearsTheOldRun() {
-        ReasmDisasm x = ran(0, 9, 2, 2, 9, 7, 2, 11, 9, 0, 0, 99, 0);
-        Check.ended("first run", x, FAULT, 3, 9);
-        Check.due("run", x.run(0, 10, 9), true);
-        Check.ended("second run", x, HALTED, 1, 10);
-        Check.due("depth", x.runInfo(ReasmDisasm.INFO_DEPTH), 0);
-        Check.registersAre("second run", x, 0, 0, 0, 0);
-        Check.valuesAre("second run", x);
-    }
-
-    private static void onTheOutput() {
-        // CALL 4, HALT, a free byte, then OUT and RET: the call goes over the padding.
+    /** "With `MEM_IMAGE` it runs on the image (n=SIZE) with pc=start", whatever the analysis moved. */
+    private static void onTheImage() {
         ReasmDisasm x = Check.analysed(3, 0, 11, 4, 0, 99, 3, 0, 4, 7, 0, 12);
-        Check.due("run", x.run(1, 0, 20), true);
+        Check.run(x, IMAGE, 0, 20);
+        Check.ended("image", x, HALTED, 5, 2);
+        Check.valuesAre("image", x, 4);
+        for (int start = 0; start < 64; start++) {
+            ReasmDisasm halts = Check.analysedFrom(new int[] {1, 2, 3}, 3, new int[64]);
+            Check.run(halts, IMAGE, start, 1);
+            Check.ended("image from " + start, halts, HALTED, 1, start);
+        }
+    }
+
+    /** "With `MEM_OUTPUT` it runs on `out`." */
+    private static void onTheOutput() {
+        // CALL 4, HALT, a free byte, then LEA, OUT and RET: the call goes over the padding.
+        ReasmDisasm x = Check.analysed(3, 0, 11, 4, 0, 99, 3, 0, 4, 7, 0, 12);
+        Check.run(x, OUTPUT, 0, 20);
         Check.ended("output", x, HALTED, 5, 2);
         Check.valuesAre("output", x, 7);
-        Check.due("run", x.run(0, 0, 20), true);
-        Check.valuesAre("image", x, 4);
-        Check.due("run", x.run(1, 4, 20), true);
+        Check.run(x, OUTPUT, 4, 20);
         Check.ended("output from the function", x, FAULT, 2, 12);
-        Check.due("run", x.run(1, 3, 20), true);
+        Check.run(x, OUTPUT, 3, 20);
         Check.ended("output from data", x, FAULT, 0, 3);
-        // The memory's end is that of the output: byte 4 is out of the image but in the output.
-        ReasmDisasm y = Check.analysed(2, 0, 6, 0, 4, 0);
-        Check.due("run", y.run(0, 0, 1), true);
-        Check.ended("LDX at n", y, FAULT, 0, 0);
-        ReasmDisasm z = Check.load(6, 0, 6, 0, 0, 55);
-        Check.due("addEntry(0)", z.addEntry(0), true);
-        Check.due("addEntry(5)", z.addEntry(5), true);
-        Check.due("analyse(2)", z.analyse(2), true);
-        Check.due("run", z.run(1, 0, 9), true);
-        Check.ended("LDX of padding", z, HALTED, 2, 4);
-        Check.registersAre("LDX of padding", z, 1, 0, 0, 0);
         // Falling into a function runs its padding as NOPs.
-        ReasmDisasm fall = Check.load(1, 0);
-        Check.due("addEntry(1)", fall.addEntry(1), true);
-        Check.due("analyse(3)", fall.analyse(3), true);
-        Check.due("run", fall.run(1, 0, 9), true);
+        ReasmDisasm fall = Check.analysed(3, 1, 1, 0);
+        Check.run(fall, OUTPUT, 0, 9);
         Check.ended("through the padding", fall, HALTED, 5, 4);
-        Check.due("run", fall.run(1, 1, 9), true);
-        Check.ended("after the padding", fall, HALTED, 1, 4);
+        Check.run(fall, OUTPUT, 0, 4);
+        Check.ended("to the end of the padding", fall, STEPS, 4, 4);
     }
 
+    /** "With pc=`M(start)`": just before a function, at it, and at the last address. */
+    private static void startsWhereAddressesMove() {
+        ReasmDisasm x = Check.analysedFrom(new int[] {0, 1, 63}, 3, new int[64]);
+        int[] starts = {0, 1, 2, 62, 63};
+        int[] moved = {0, 4, 5, 65, 69};
+        for (int i = 0; i < starts.length; i++) {
+            Check.run(x, OUTPUT, starts[i], 1);
+            Check.ended("output from " + starts[i], x, HALTED, 1, moved[i]);
+        }
+    }
+
+    /** "(n=OUTSIZE)": what lies past the image but in the output is there in the output alone. */
+    private static void sizeOfTheOutput() {
+        // LDX R0 at 5, 6 and 7 where SIZE is 5 and OUTSIZE is 7; none of these is symbolic.
+        ReasmDisasm five = Check.analysedFrom(new int[] {0, 4}, 2, 6, 0, 5, 0, 0);
+        Check.run(five, IMAGE, 0, 9);
+        Check.ended("LDX at SIZE in the image", five, FAULT, 0, 0);
+        Check.run(five, OUTPUT, 0, 9);
+        Check.ended("LDX at SIZE in the output", five, HALTED, 4, 6);
+        Check.registersAre("LDX at SIZE in the output", five, 1, 0, 0, 0);
+        ReasmDisasm six = Check.analysedFrom(new int[] {0, 4}, 2, 6, 0, 6, 0, 0);
+        Check.run(six, OUTPUT, 0, 9);
+        Check.ended("LDX of the last byte", six, HALTED, 4, 6);
+        ReasmDisasm seven = Check.analysedFrom(new int[] {0, 4}, 2, 6, 0, 7, 0, 0);
+        Check.run(seven, OUTPUT, 0, 9);
+        Check.ended("LDX at OUTSIZE", seven, FAULT, 0, 0);
+        // JMPT at 4, 5 and 6 where SIZE is 4 and OUTSIZE is 6.
+        ReasmDisasm four = Check.analysedFrom(new int[] {0, 3}, 2, 13, 0, 4, 0);
+        Check.run(four, IMAGE, 0, 9);
+        Check.ended("JMPT at SIZE in the image", four, FAULT, 0, 0);
+        Check.run(four, OUTPUT, 0, 9);
+        Check.ended("JMPT at SIZE in the output", four, HALTED, 2, 1);
+        ReasmDisasm last = Check.analysedFrom(new int[] {0, 3}, 2, 13, 0, 5, 0);
+        Check.run(last, OUTPUT, 0, 1);
+        Check.ended("JMPT through the last byte", last, STEPS, 1, 0);
+        ReasmDisasm past = Check.analysedFrom(new int[] {0, 3}, 2, 13, 0, 6, 0);
+        Check.run(past, OUTPUT, 0, 9);
+        Check.ended("JMPT at OUTSIZE", past, FAULT, 0, 0);
+    }
+
+    private static void outputOfTheLastAnalysis() {
+        ReasmDisasm x = Check.analysed(3, 1, 1, 0);
+        Check.analyse(x, 1);
+        Check.due("analyse(4)", x.analyse(4), false);
+        Check.run(x, OUTPUT, 0, 9);
+        Check.ended("after analyse(1)", x, HALTED, 3, 2);
+        // A jump into what only the longer, earlier output held is past the end.
+        ReasmDisasm y = Check.analysed(3, 1, 0, 8, 5);
+        Check.analyse(y, 0);
+        Check.run(y, OUTPUT, 1, 9);
+        Check.ended("past the shorter output", y, FAULT, 1, 5);
+    }
+
+    /** "The memory is only read, never written; the image, entries and analysis are unchanged." */
     private static void changesOnlyTheRun() {
         ReasmDisasm x = Check.analysed(2, 0, 11, 4, 0, 99, 3, 0, 4, 7, 0, 12);
         String before = Check.imageState(x);
-        for (int which = 0; which <= 1; which++) {
+        for (int which = IMAGE; which <= OUTPUT; which++) {
             for (int start = 0; start < 10; start++) {
-                Check.due("run", x.run(which, start, 50), true);
+                Check.run(x, which, start, 50);
                 Check.same("image after run", Check.imageState(x), before);
             }
         }
         Check.imageIs("image after runs", x, 11, 4, 0, 99, 3, 0, 4, 7, 0, 12);
+        Check.due("entries after runs", x.addEntry(0), false);
+    }
+
+    /** "Before the loop the old run state is cleared: all registers 0." */
+    private static void clearsRegisters() {
+        ReasmDisasm x = Check.ran(0, 9, 2, 0, 1, 2, 1, 2, 2, 2, 3, 2, 3, 4, 0);
+        Check.registersAre("first run", x, 1, 2, 3, 4);
+        Check.run(x, IMAGE, 12, 9);
+        Check.registersAre("second run", x, 0, 0, 0, 0);
+        Check.run(x, IMAGE, 3, 1);
+        Check.registersAre("third run", x, 0, 2, 0, 0);
+    }
+
+    /** "Stack empty", where it was full. */
+    private static void clearsTheStack() {
+        ReasmDisasm x = Check.ran(0, 99, 11, 0, 12);
+        Check.due("depth", x.runInfo(ReasmDisasm.INFO_DEPTH), 8);
+        Check.run(x, IMAGE, 2, 9);
+        Check.ended("RET at once", x, FAULT, 0, 2);
+        Check.due("depth", x.runInfo(ReasmDisasm.INFO_DEPTH), 0);
+        Check.run(x, IMAGE, 0, 99);
+        Check.ended("eight calls again", x, FAULT, 8, 0);
+        Check.due("depth", x.runInfo(ReasmDisasm.INFO_DEPTH), 8);
+    }
+
+    /** "Out list empty", where it was full. */
+    private static void clearsTheValues() {
+        ReasmDisasm x = Check.ran(0, 99, 5, 1, 3, 7, 1, 8, 0, 7, 2, 0);
+        Check.due("values", x.runInfo(ReasmDisasm.INFO_OUTCOUNT), 16);
+        Check.run(x, IMAGE, 7, 9);
+        Check.valuesAre("second run", x, 0);
+        Check.run(x, IMAGE, 0, 99);
+        Check.due("values again", x.runInfo(ReasmDisasm.INFO_OUTCOUNT), 16);
+        Check.due("first value again", x.runOut(0), 3);
+    }
+
+    /** "Steps 0", where they were 2000. */
+    private static void clearsTheSteps() {
+        ReasmDisasm x = Check.ran(0, 2000, 8, 0, 1, 0);
+        Check.ended("first run", x, STEPS, 2000, 0);
+        Check.run(x, IMAGE, 2, 9);
+        Check.ended("second run", x, HALTED, 2, 3);
+        Check.run(x, IMAGE, 0, 2000);
+        Check.ended("third run", x, STEPS, 2000, 0);
     }
 }
