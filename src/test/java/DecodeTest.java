@@ -74,16 +74,22 @@ public final class DecodeTest {
         }
     }
 
-    /** In the output n is OUTSIZE, which is above the address of every instruction that padding has moved. */
+    /** The bytes stand at 2 in the image, and in the output at 8, past all that the image has. */
+    private static ReasmDisasm moved(int[] bytes, int length) {
+        int[] image = new int[2 + length];
+        System.arraycopy(bytes, 0, image, 2, length);
+        ReasmDisasm x = Check.analysedFrom(new int[] {1, 2}, 3, image);
+        Check.due("moved", x.mapAddr(2), 8);
+        return x;
+    }
+
+    /** In the output n is OUTSIZE. */
     private static void lengthsOfTheOutput() {
         for (int op = 0; op < FORMS.length; op++) {
             int[] bytes = bytesOf(op);
             for (int length = 1; length <= bytes.length; length++) {
-                int[] image = new int[2 + length];
-                System.arraycopy(bytes, 0, image, 2, length);
-                ReasmDisasm x = Check.analysedFrom(new int[] {1, 2}, 3, image);
-                Check.due("moved past the image", x.mapAddr(2), 8);
-                valid("op " + op + " in the last " + length + " of the output", x, 2, length == bytes.length);
+                String what = "op " + op + " in the last " + length + " of the output";
+                valid(what, moved(bytes, length), 2, length == bytes.length);
             }
         }
     }
@@ -96,7 +102,7 @@ public final class DecodeTest {
                     for (int b = 0; b <= 255; b++) {
                         int[] bytes = bytesOf(op);
                         bytes[1 + i] = b;
-                        valid("op " + op + " with register " + b, Check.analysed(1, 0, bytes), 0, b <= 3);
+                        valid("op " + op + " with register " + b, moved(bytes, bytes.length), 2, b <= 3);
                     }
                 }
             }

@@ -25,6 +25,8 @@ public final class MachineTest {
         tableJumpPastAShorterImage();
         registerJumps();
         leavesNext();
+        inTheOutput();
+        faultsInTheOutput();
         Check.end();
     }
 
@@ -90,15 +92,15 @@ public final class MachineTest {
     /** "i=(a+R[s]) mod 256; if i>=n: fault; else R[r]=mem[i]." */
     private static void loadEdges() {
         for (int[] index : INDICES) {
-            int[] bytes = {2, 0, index[1], 6, 1, index[0], 0, 0, 66};
+            int[] bytes = {2, 3, index[1], 6, 1, index[0], 3, 0, 66};
             ReasmDisasm x = Check.ran(0, 2, bytes);
             String what = "LDX at " + index[0] + " + " + index[1];
             if (index[2] < 0) {
                 Check.ended(what, x, FAULT, 1, 3);
-                Check.registersAre(what, x, index[1], 0, 0, 0);
+                Check.registersAre(what, x, 0, 0, 0, index[1]);
             } else {
                 Check.ended(what, x, STEPS, 2, 7);
-                Check.registersAre(what, x, index[1], bytes[index[2]], 0, 0);
+                Check.registersAre(what, x, 0, bytes[index[2]], 0, index[1]);
             }
         }
         Check.ended("LDX of the last of 64", Check.ran(60, 1, Check.full(6, 0, 63, 0)), STEPS, 1, 64);
@@ -253,5 +255,45 @@ public final class MachineTest {
             int p = 64 - bytes.length;
             Check.ended("op " + bytes[0] + " at the end", Check.ran(p, 1, Check.full(bytes)), STEPS, 1, 64);
         }
+    }
+
+    /** Runs the bytes, which stand at 3, in the output, where they stand at 12 and the image has none. */
+    private static ReasmDisasm moved(int maxSteps, int... bytes) {
+        int[] image = new int[3 + bytes.length];
+        System.arraycopy(bytes, 0, image, 3, bytes.length);
+        ReasmDisasm x = Check.analysedFrom(new int[] {1, 2, 3}, 3, image);
+        Check.due("moved", x.mapAddr(3), 12);
+        Check.run(x, ReasmDisasm.MEM_OUTPUT, 3, maxSteps);
+        return x;
+    }
+
+    /** Every instruction takes its operands from the memory that is run. */
+    private static void inTheOutput() {
+        Check.ended("HALT", moved(9, 1, 0), HALTED, 2, 13);
+        Check.registersAre("MOVI", moved(1, 2, 3, 9), 0, 0, 0, 9);
+        Check.registersAre("LEA moves", moved(1, 3, 2, 5), 0, 0, 14, 0);
+        Check.registersAre("ADD", moved(3, 2, 1, 5, 2, 2, 6, 4, 1, 2), 0, 11, 6, 0);
+        Check.registersAre("ADDI", moved(2, 5, 1, 250, 5, 1, 7), 0, 1, 0, 0);
+        Check.registersAre("LDX moves", moved(2, 2, 2, 1, 6, 1, 9, 2, 77), 0, 77, 1, 0);
+        Check.valuesAre("OUT", moved(2, 2, 3, 9, 7, 3), 9);
+        Check.ended("JMP moves", moved(9, 8, 6, 99, 0), HALTED, 2, 15);
+        for (int op = ReasmDisasm.OP_BEQI; op <= ReasmDisasm.OP_BGEI; op++) {
+            Check.ended("branch " + op + " moves", moved(9, 2, 1, 5, op, 1, 5, 11, 0, 0), HALTED, 3, 20);
+            Check.ended("branch " + op + " not taken", moved(9, 2, 1, 5, op, 1, 6, 11, 0, 0), HALTED, 3, 19);
+        }
+        // The call at 3 of 6 makes a fourth function, so that 6 lies at 18.
+        Check.ended("CALL moves", moved(1, 11, 6, 0, 12), STEPS, 1, 18);
+        Check.ended("RET", moved(9, 11, 6, 0, 12), HALTED, 3, 14);
+        Check.ended("JMPT", moved(2, 2, 1, 1, 13, 1, 9, 99, 7), STEPS, 2, 7);
+        Check.ended("JMPR", moved(2, 2, 1, 77, 14, 1), STEPS, 2, 77);
+    }
+
+    /** The fault conditions, too, look at the memory that is run. */
+    private static void faultsInTheOutput() {
+        Check.ended("LDX past the end", moved(9, 2, 2, 1, 6, 1, 255, 1, 0), FAULT, 1, 15);
+        Check.ended("LDX by its index past the end", moved(9, 2, 2, 200, 6, 1, 0, 2, 0), FAULT, 1, 15);
+        Check.ended("JMPT past the end", moved(9, 2, 2, 1, 13, 1, 255, 0), FAULT, 1, 15);
+        Check.ended("JMPT by its index past the end", moved(9, 2, 2, 200, 13, 2, 0, 0), FAULT, 1, 15);
+        Check.ended("RET on an empty stack", moved(9, 12), FAULT, 0, 12);
     }
 }

@@ -8,6 +8,7 @@ public final class ReachTest {
         unboundedTable();
         boundedTable();
         notFromInvalid();
+        notFromCut();
         belowSize();
         lastInTheImage();
         lastInAFullImage();
@@ -85,6 +86,25 @@ public final class ReachTest {
         reaches("a bad register of a branch", new int[] {9, 4, 0, 5, 0, 0}, 0);
         reaches("into a bad one", new int[] {8, 3, 0, 99, 0, 0}, 0, 3);
         reaches("into one that is cut", new int[] {8, 5, 0, 0, 0, 8}, 0, 5);
+    }
+
+    /** A branch whose target is cut off has none, also where an earlier image held the target. */
+    private static void notFromCut() {
+        int[][] cut = {{8}, {9, 0, 0}, {10, 0, 0}, {11}};
+        for (int[] bytes : cut) {
+            int[] image = new int[3 + bytes.length];
+            System.arraycopy(bytes, 0, image, 3, bytes.length);
+            reachedAre("op " + bytes[0] + " cut", Check.analysed(0, 3, image), 3);
+            int[] longer = java.util.Arrays.copyOf(image, image.length + 1);
+            longer[image.length] = 1;
+            ReasmDisasm x = Check.analysed(0, 3, longer);
+            Check.due("op " + bytes[0] + " whole", x.byteClass(1), ReasmDisasm.CLASS_START);
+            x.reset();
+            Check.put(x, image);
+            Check.enter(x, 3);
+            Check.analyse(x, 0);
+            reachedAre("op " + bytes[0] + " cut after reset", x, 3);
+        }
     }
 
     /** "Addresses below SIZE": the last address is reached, SIZE and all above it are not. */

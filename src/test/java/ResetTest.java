@@ -115,11 +115,17 @@ public final class ResetTest {
         }
     }
 
+    /** A full image whose far end, all of it reached, has a call, a guarded jump and addresses of its first bytes. */
+    private static int[] farReaching() {
+        return Check.full(3, 0, 1, 11, 2, 10, 0, 2, 3, 13, 0, 1);
+    }
+
     /** After reset an object cannot be told from a new one, whatever is done with it. */
     private static void leavesNothingBehind() {
-        int[][] images = {{0}, {1, 1}, {8, 2, 3}, {6, 0, 3, 0}, {11, 2, 0, 5, 7}};
+        int[][] images = {{0}, {1, 1}, {8, 2, 3}, {6, 0, 3, 0}, {0, 0, 0, 0, 0}, {11, 2, 0, 5, 7}, {10, 0, 2, 3, 13}};
         for (int[] image : images) {
-            ReasmDisasm x = Check.analysedFrom(new int[] {1, 2, 60, 61}, 3, Check.full(13, 0, 4, 4));
+            ReasmDisasm x = Check.analysedFrom(new int[] {0, 1, 2, 60}, 3, farReaching());
+            Check.due("tables", x.count(ReasmDisasm.K_TABLES), 1);
             Check.run(x, ReasmDisasm.MEM_OUTPUT, 0, 2000);
             x.reset();
             Check.same("after reset", Check.state(x), Check.state(new ReasmDisasm(64)));
